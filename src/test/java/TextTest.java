@@ -89,11 +89,14 @@ public final class TextTest {
         // Java 17's own toString has a digit too many or a farther one in these.
         check(2.0E-3, "0.002");
         check(Math.scalb(1.0, -44), "5.684341886080802E-14");
-        check(1.0E23, "1.0E23");
         check(2.2E-322, "2.2E-322");
         // Halfway between two decimals of as few digits: the even one.
-        check(0x1p54 + 4, Shortest.text(0x1p54 + 4));
-        check(0x1p55f, Shortest.text(0x1p55f));
+        check(1125899906842624.25, "1.1258999068426242E15");
+        check(1125899906842624.75, "1.1258999068426248E15");
+        check(0.0205078125f, "0.020507812");
+        check(1903976.75f, "1903976.8");
+        // A decimal halfway to the next number is read as the even one of the two.
+        check(67108896f, "6.71089E7");
     }
 
     private static void samples() {
