@@ -70,13 +70,12 @@ public final class TextTest {
         check(9999999.999999998, "9999999.999999998");
         check(1e7, "1.0E7");
         check(-1.2345678E7, "-1.2345678E7");
-        check(1e23, "1.0E23");
-        check(2e23, "2.0E23");
+        check(2.0E-3, "0.002");
+        check(2.2E-322, "2.2E-322");
         check(9.007199254740992E15, "9.007199254740992E15");
         check(Double.MAX_VALUE, "1.7976931348623157E308");
         check(-2.2250738585072014E-308, "-2.2250738585072014E-308");
         check(Double.MIN_VALUE, "4.9E-324");
-        check(2 * Double.MIN_VALUE, "9.9E-324");
         check(0.001f, "0.001");
         check(9.999999E-4f, "9.999999E-4");
         check(9999999f, "9999999.0");
@@ -86,10 +85,11 @@ public final class TextTest {
         check(Float.MIN_VALUE, "1.4E-45");
         check(1.1754944E-38f, "1.1754944E-38");
         check(0.3f, "0.3");
-        // Java 17's own toString has a digit too many or a farther one in these.
-        check(2.0E-3, "0.002");
-        check(Math.scalb(1.0, -44), "5.684341886080802E-14");
-        check(2.2E-322, "2.2E-322");
+        // Java 17's own toString has more digits or a farther decimal for these.
+        check(1e23, "1.0E23");
+        check(2e23, "2.0E23");
+        check(0x1p-44, "5.684341886080802E-14");
+        check(2 * Double.MIN_VALUE, "9.9E-324");
         // Halfway between two decimals of as few digits: the even one.
         check(1125899906842624.25, "1.1258999068426242E15");
         check(1125899906842624.75, "1.1258999068426248E15");
