@@ -9,6 +9,7 @@ final class Samples {
     static final int LONG = 4;
     static final int FLOAT = 5;
     static final int DOUBLE = 6;
+    static final int MOST_TAKES = 4;
     static final int[] NO_TYPES = {-1, 7, 8, 100, Integer.MIN_VALUE, Integer.MAX_VALUE};
 
     private long state;
@@ -128,10 +129,11 @@ final class Samples {
         return Double.doubleToLongBits(v);
     }
 
-    /** All that is left of the text. */
+    /** All that is left of the text; it takes at most MOST_TAKES calls. */
     static String taken(PrimitiveBits x) {
         StringBuilder all = new StringBuilder();
-        for (long part = x.take(); part != 0; part = x.take()) {
+        for (int i = 0; i < MOST_TAKES; i++) {
+            long part = x.take();
             for (int shift = 56; shift >= 0; shift -= 8) {
                 if (part >>> shift != 0) {
                     all.append((char) (part >>> shift & 255));
