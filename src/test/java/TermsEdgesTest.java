@@ -80,7 +80,10 @@ public final class TermsEdgesTest {
             .binary(3, ONE, 0x4024000000000000L, DOUBLE, 0x3fb999999999999aL)
             // (2^27 + 1) * (2^26 + 1) = 2^53 + 2^27 + 2^26 + 1 and (2^27 + 3) * (2^26 + 1) lie halfway.
             .binary(2, 0x41a0000002000000L, 0x4190000004000000L, DOUBLE, 0x4340000006000000L)
-            .binary(2, 0x41a0000006000000L, 0x4190000004000000L, DOUBLE, 0x434000000a000002L);
+            .binary(2, 0x41a0000006000000L, 0x4190000004000000L, DOUBLE, 0x434000000a000002L)
+            // All bits are 1: (1 - 2^-53)^2 and (2 - 2^-52)^2, above their neighbours by next to nothing.
+            .binary(2, ONE - 1, ONE - 1, DOUBLE, ONE - 2).binary(2, 0x3fffffffffffffffL, 0x3fffffffffffffffL, DOUBLE, 0x400ffffffffffffeL)
+            .binary(3, ONE - 1, 0x3fffffffffffffffL, DOUBLE, 0x3fe0000000000000L).binary(3, ONE, ONE - 1, DOUBLE, ONE + 1);
     }
 
     private static void tooLarge() {
@@ -154,16 +157,24 @@ public final class TermsEdgesTest {
     }
 
     private static void lastPromisedCall() {
-        Trial t = trial("an object is used for at most 512 calls");
-        while (t.calls() <= Supply.MOST_CALLS - 18) {
-            t.shows(-2.2250738585072014E-308, "-2.2250738585072014E-308").binary(0, t.calls(), 1, LONG, t.calls() + 1L)
-                .minus(t.calls(), INT, -(t.calls())).cast(65535, INT, SHORT, -1).compare(0, MINUS_ZERO, DOUBLE, 0)
-                .binary(3, 1, 0, LONG, Trial.ARITHMETIC).text(0, 7, Trial.ILLEGAL).text(Long.MIN_VALUE, LONG, 20).take("-9223372");
+        Trial operators = trial("an object is used for at most 512 calls: operators, casts and comparisons");
+        for (int i = 0; i < Supply.MOST_CALLS / 4; i++) {
+            operators.binary(0, i, 1, LONG, i + 1L).minus(i, INT, -i).cast(65535, INT, SHORT, -1).compare(0, MINUS_ZERO, DOUBLE, 0);
         }
-        while (t.calls() < Supply.MOST_CALLS - 2) {
-            t.compare(1, 2, INT, -1);
+        Trial refusals = trial("an object is used for at most 512 calls: refused ones too");
+        refusals.text(42, INT, 2);
+        while (refusals.calls() < Supply.MOST_CALLS - 1) {
+            refusals.binary(3, 1, 0, LONG, Trial.ARITHMETIC).text(0, 7, Trial.ILLEGAL);
         }
-        t.text(Samples.bits(4.9E-324), DOUBLE, 8).take("4.9E-324");
+        refusals.take("42");
+        Trial texts = trial("an object is used for at most 512 calls: texts");
+        for (int i = 0; i < Supply.MOST_CALLS; i++) {
+            texts.text(0x8010000000000000L + i % 2, DOUBLE, i % 2 == 0 ? 24 : 23);
+        }
+        Trial takes = trial("an object is used for at most 512 calls: texts and takes");
+        for (int i = 0; i < Supply.MOST_CALLS / 4; i++) {
+            takes.text(0x8010000000000000L, DOUBLE, 24).take("-2.22507").take("38585072").take("014E-308");
+        }
     }
 
     private static void lowBitsOfSmall() {
